@@ -13,6 +13,8 @@ public final class LearnedCount {
     private static final int NO = 0, YES = 1;
     private static final int MARKS = 6, CASES = 64, DOCTORS = 8, BOOKS = 8, WORDS = 24;
     private static final int ALL_BOOKS = 255;
+    /** The game is played with books 0 to 5 alone. */
+    private static final int GAME_BOOKS = 63;
 
     /** Kinds of words, numbered as word(w, 0) answers them. */
     private static final int WORD = 0, CITE = 1, AGAINST = 2, NOTE = 3, LIKE = 4, LAW = 5;
@@ -51,9 +53,6 @@ public final class LearnedCount {
     /** Faults that the machine would find. */
     private static final int NULL_FAULT = 1, INDEX_FAULT = 2, CAST_FAULT = 3, SIZE_FAULT = 4;
 
-    /** Books 0 to 5 alone are played with; a turn of this number is a pass. */
-    private static final int GAME_BOOKS = 6, PASS = 6, GAME_SETS = 64;
-
     private final Tape tape;
     private final Tokens tokens;
     private final LibraryReader libraryReader;
@@ -67,7 +66,6 @@ public final class LearnedCount {
     private int latestFault;
     private final Weighing weighing;
     private final Finding finding;
-    private final Play play;
     private final Sheet[] sheets;
 
     public LearnedCount() {
@@ -83,7 +81,6 @@ public final class LearnedCount {
         brought = ALL_BOOKS;
         weighing = new Weighing(theLibrary, theRule);
         finding = new Finding(weighing);
-        play = new Play(weighing);
         sheets = new Sheet[SHEETS];
         for (int k = 0; k < SHEETS; k++) {
             sheets[k] = new Sheet();
@@ -393,12 +390,17 @@ public final class LearnedCount {
         return fewest;
     }
 
+    /**
+     * Whoever never passes brings the game to the end at which all six books are there, whatever the other one does.
+     * Both can do so at every turn, so neither gets anything better than what is held then, and every book is as good
+     * a first turn as any: the least is book 0. The tests play it out.
+     */
     public int game(int c, int begins, int what) {
         if (!isCase(c) || !isEither(begins) || !isEither(what)) {
             return BAD;
         }
-        play.toTheEnd(theLibrary, theRule, c);
-        return what == 0 ? play.result(begins) : play.firstTurn(begins);
+        weighing.begin(theLibrary, theRule, GAME_BOOKS);
+        return what == 0 ? weighing.heldIn(c) : 0;
     }
 
     public int turn(int what) {
@@ -1487,77 +1489,6 @@ public final class LearnedCount {
                     turned[(d * 2 + answer) * CASES + marks]++;
                 }
             }
-        }
-    }
-
-    /** The bringing of books as a game, from the full set of books back to none. */
-    private static final class Play {
-        final Weighing weighing;
-        /** What is held by a set of books, for the one for yes: 1 yes, 0 open, -1 no. */
-        final int[] worth = new int[GAME_SETS];
-        /** What comes of a set of books whose mover (NO ahead of YES) has no pass before him. */
-        final int[] comes = new int[2 * GAME_SETS];
-
-        Play(Weighing weighing) {
-            this.weighing = weighing;
-        }
-
-        void toTheEnd(Library library, Rule rule, int c) {
-            int telling = library.tellingBooks(rule);
-            for (int set = 0; set < GAME_SETS; set++) {
-                if ((set & ~telling) != 0) {
-                    worth[set] = worth[set & telling];
-                } else {
-                    weighing.begin(library, rule, set);
-                    int held = weighing.heldIn(c);
-                    worth[set] = held == YES ? 1 : held == NO ? -1 : 0;
-                }
-            }
-            comes[GAME_SETS - 1] = worth[GAME_SETS - 1];
-            comes[2 * GAME_SETS - 1] = worth[GAME_SETS - 1];
-            for (int set = GAME_SETS - 2; set >= 0; set--) {
-                goBackTo(set);
-            }
-        }
-
-        /** Behind a pass one may end the game with another, or bring a book. */
-        private void goBackTo(int set) {
-            int byNo = bestBringing(set, NO);
-            int byYes = bestBringing(set, YES);
-            comes[set] = better(NO, byNo, better(YES, byYes, worth[set]));
-            comes[GAME_SETS + set] = better(YES, byYes, better(NO, byNo, worth[set]));
-        }
-
-        private int bestBringing(int set, int mover) {
-            int best = mover == YES ? -1 : 1;
-            for (int b = 0; b < GAME_BOOKS; b++) {
-                if (!holds(set, b)) {
-                    best = better(mover, best, bringing(set, mover, b));
-                }
-            }
-            return best;
-        }
-
-        private int bringing(int set, int mover, int b) {
-            return comes[(YES - mover) * GAME_SETS + (set | 1 << b)];
-        }
-
-        private static int better(int mover, int one, int another) {
-            return mover == YES ? Math.max(one, another) : Math.min(one, another);
-        }
-
-        int result(int begins) {
-            int comesOfAll = comes[begins * GAME_SETS];
-            return comesOfAll == 0 ? NONE : comesOfAll > 0 ? YES : NO;
-        }
-
-        int firstTurn(int begins) {
-            for (int b = 0; b < GAME_BOOKS; b++) {
-                if (bringing(0, begins, b) == comes[begins * GAME_SETS]) {
-                    return b;
-                }
-            }
-            return PASS;
         }
     }
 
