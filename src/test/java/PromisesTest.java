@@ -194,6 +194,8 @@ public final class PromisesTest {
         due("24 words", library(x, "like a -;".repeat(24)), 24);
         due("24 words and other lines", library(x, "like a -;".repeat(24) + "in 3;copies 3 0;"), 26);
         due("citing ahead", library(x, "cite a 1;word b - - no;"), 2);
+        due("a library of no lines", library(x, ""), 0);
+        due("has no words", x.count(0), 0);
         due("the last word's number", library(x, "like a -;".repeat(23) + "cite a 22;"), 24);
     }
 
@@ -221,6 +223,7 @@ public final class PromisesTest {
         libraryFault("word a" + (char) 233, 1, 6);
         libraryFault("law 1234", 1, 4);
         libraryFault("1000", 1, 0);
+        libraryFault(String.valueOf((char) 0), 1, 0);
         libraryFault("word 1000", 1, 5);
         libraryFault("in", 2, 2);
         libraryFault("in  ", 2, 4);
@@ -229,6 +232,7 @@ public final class PromisesTest {
         libraryFault("in 3;-", 2, 5);
         libraryFault("in 3;12", 2, 5);
         libraryFault("inn 3;", 2, 0);
+        libraryFault("z", 2, 0);
         libraryFault("i 3;", 2, 0);
         libraryFault("main a;", 2, 0);
         libraryFault("in a;", 2, 3);
@@ -264,6 +268,7 @@ public final class PromisesTest {
         libraryFault("word a pq rq yes;", 4, 10);
         libraryFault("law 5 pq q maybe;", 4, 9);
         libraryFault("copies 1 1;copies 2 1;copies 1 x;", 4, 29);
+        libraryFault("copies 0 1;copies 0 2;", 4, 18);
         libraryFault("like a -;".repeat(24) + "word,", 5, 216);
         libraryFault("like a -;".repeat(24) + "law 1 - - yes;", 5, 216);
         libraryFault("like a -;".repeat(24) + "wordy", 2, 216);
@@ -292,6 +297,8 @@ public final class PromisesTest {
         for (int what = 0; what < 7; what++) {
             due("weighs(" + what + ") as at first", x.weighs(what), rest[what]);
         }
+        due("a rule of no lines", rule(x, ""), 0);
+        due("is as at first", x.weighs(1), 2);
         x.bring(3);
         rule(x, "notes ;");
         due("books stay", x.count(2), 2);
@@ -326,6 +333,7 @@ public final class PromisesTest {
             String name = line.split(" ")[0];
             ruleFault(line + ";" + name + ",", 4, line.length() + 1);
         }
+        ruleFault("main a;notes;main b;", 4, 13);
         LearnedCount x = new LearnedCount();
         due("all doctors", rule(x, "main hgfedcba;"), 1);
         due("all doctors", x.weighs(0), 255);
@@ -389,6 +397,7 @@ public final class PromisesTest {
         due("word(greatest, 0)", x.word(HIGH, 0), BAD);
         LearnedCount y = told("cite a 1;cite b 0;note c 1;like a pq;word d pq r yes;");
         due("weight in a ring", y.word(0, 8), 0);
+        due("weight in a ring", y.word(1, 8), 0);
         due("weight behind a ring", y.word(2, 8), 0);
         due("weight of an unsound like", y.word(3, 8), 2);
         due("weight of a word", y.word(4, 8), 3);
@@ -489,7 +498,8 @@ public final class PromisesTest {
         for (int w = 0; w < 23; w++) {
             chain.append("cite a ").append(w + 1).append(';');
         }
-        LearnedCount y = told(chain + "word a - - no;");
+        LearnedCount y = told(chain + "word a - u no;");
+        due("the weight by it", y.word(0, 8), 1);
         due("the longest way", y.steps(0), 23);
         due("says by it", y.says(0, 9), 0);
     }
@@ -538,6 +548,8 @@ public final class PromisesTest {
         rule(x, "two later;notes;");
         due("settled, but a clash", x.clash(0, 0), 16);
         due("with notes", x.clash(1, 1), 2);
+        LearnedCount y = told("word a - - yes;word a - p no;");
+        due("case 0", y.clash(0, 1), 0);
         due("clash(8, 0)", x.clash(8, 0), BAD);
         due("clash(-1, 0)", x.clash(-1, 0), BAD);
         due("clash(0, 2)", x.clash(0, 2), BAD);
@@ -553,6 +565,9 @@ public final class PromisesTest {
         due("unlike", x.sides(2, 0, 1), 0);
         due("the least unlike", x.sides(2, 0, 2), 3);
         due("never both", x.sides(0, 3, 0), 0);
+        LearnedCount y = told("word a - - yes;word b - p no;word c - - yes;");
+        due("case 0", y.sides(0, 1, 2), 0);
+        due("all cases", y.sides(0, 2, 1), 64);
         due("one and the same", x.sides(1, 1, 0), BAD);
         due("sides(8, 0, 0)", x.sides(8, 0, 0), BAD);
         due("sides(0, 8, 0)", x.sides(0, 8, 0), BAD);
@@ -572,6 +587,11 @@ public final class PromisesTest {
         due("on c alone: the head decides as well", x.hangs(2, 0), 0);
         due("none", x.hangs(2, 1), NONE);
         due("on one who says nothing", x.hangs(7, 0), 0);
+        LearnedCount y = told("word a - - no;word b - - no;word c - - no;word d - - yes;word e p - yes;");
+        due("three against one", y.hangs(0, 0), 32);
+        due("three against two", y.hangs(0, 1), 1);
+        LearnedCount z = told("word a - - yes;");
+        due("case 0", z.hangs(0, 1), 0);
         due("hangs(8, 0)", x.hangs(8, 0), BAD);
         due("hangs(-1, 0)", x.hangs(-1, 0), BAD);
         due("hangs(0, 2)", x.hangs(0, 2), BAD);
@@ -601,6 +621,9 @@ public final class PromisesTest {
         dueHeld(x, 0, 1, 4, 0, 0);
         dueHeld(x, 28, 0, 1, 0, 0);
         dueHeld(x, 36, 1, 1, 0, 0);
+        rule(x, "head a;");
+        LearnedCount h = told("word a - - yes;word b - - no;", "head a;");
+        dueHeld(h, 0, 1, 3, 1, 1);
         rule(x, "head a;silent no;laws none;");
         dueHeld(x, 2, 0, 4, 1, 1);
         dueHeld(x, 36, 0, 4, 0, 0);
@@ -675,6 +698,12 @@ public final class PromisesTest {
         LearnedCount z = told("word a - - yes;word b - - yes;word c - - yes;word d - - no;word e u - no;");
         due("a greater lesser one", z.widest(0), 32);
         due("it", z.widest(1), 2);
+        LearnedCount m = told("word a - - yes;word b - - no;");
+        due("case 0", m.widest(0), 0);
+        LearnedCount o = told("word a - - yes;word b - - no;word c q - no;");
+        due("more that say no", o.widest(0), 2);
+        LearnedCount one = told("word a q - no;");
+        due("one says something", one.widest(0), 2);
         LearnedCount n = told("law 3 - - yes;in 2;copies 2 0;word f - - yes;");
         due("none say anything", n.widest(0), NONE);
         due("none say anything", n.widest(1), NONE);
@@ -693,6 +722,11 @@ public final class PromisesTest {
         due("the least of several", x.near(15, 1, 0), 7);
         due("its mark", x.near(15, 1, 1), 1);
         due("the other side", x.near(15, 0, 0), 13);
+        LearnedCount far = told("word a pqrstu - yes;word b - pqrstu no;");
+        due("six marks", far.near(0, 1, 1), 6);
+        due("six marks away", far.near(0, 1, 0), 63);
+        due("case 0", far.near(63, 0, 0), 0);
+        due("five marks", far.near(32, 1, 1), 5);
         LearnedCount y = told("word a p - yes;");
         due("none", y.near(0, 0, 0), NONE);
         due("none", y.near(0, 0, 1), NONE);
@@ -796,6 +830,10 @@ public final class PromisesTest {
         dueTurn(told("word a p - yes;law 1 - p no;", "main a;two special;"), 32, 0, 0, 1);
         dueTurn(told("word a pq - yes;law 1 - q no;", "main a;two special;silent yes;"), 16, 0, 0, 0);
         dueTurn(told("word a pq - yes;law 1 - q no;", "main a;two later;silent yes;"), 32, 0, 0, 0);
+        dueTurn(told("word a pqrstu - yes;law 1 - p no;law 1 - q no;law 1 - r no;law 1 - s no;law 1 - t no;law 1 - u no;",
+                "main a;two special;"), 1, 0, 0, 63);
+        dueTurn(told("word a - - yes;word b - - yes;in 1;word f - - no;word g - - no;word h u - no;", "main abc;"), 64, 2, 1, 0);
+        dueTurn(told("in 1;word f - - yes;word g - - yes;word h u - no;", "main ab;"), 32, 0, 0, 0);
         due("turn(4)", new LearnedCount().turn(4), BAD);
         due("turn(-1)", new LearnedCount().turn(-1), BAD);
     }
@@ -811,6 +849,11 @@ public final class PromisesTest {
         due("against him", x.turns(1, 0, 1), 16);
         due("with him", x.turns(1, 1, 1), 0);
         due("where it is a law", x.turns(1, 1, 32), 0);
+        LearnedCount y = told("word a - - yes;word b - - yes;word c - - no;word d p - no;");
+        due("two against one", y.turns(4, 0, 0), 64);
+        due("one more against two", y.turns(4, 1, 0), 32);
+        LearnedCount z = told("word a - - yes;word b - - yes;");
+        due("one against two", z.turns(4, 0, 0), 0);
         due("not main", x.turns(2, 0, 0), STATE);
         due("turns(8, 0, 0)", x.turns(8, 0, 0), BAD);
         due("turns(-1, 0, 0)", x.turns(-1, 0, 0), BAD);
@@ -887,6 +930,8 @@ public final class PromisesTest {
         library(x, "law 2 tu - yes;law 1 - - no;");
         due("two marks", x.brief(0), 2);
         due("these", x.brief(1), 48);
+        library(x, "law 2 p qrstu yes;law 2 u - yes;law 1 - - no;");
+        due("one case among others", x.brief(1), 63);
         library(x, "law 2 pqrstu - yes;law 1 - - no;");
         due("all marks", x.brief(0), 6);
         due("all marks", x.brief(1), 63);
