@@ -646,7 +646,7 @@ public final class LearnedCount {
 
         /** The first place from here on where no byte of these stands. */
         int behindAll(int least, int greatest, int from) {
-            int i = Math.max(from, 0);
+            int i = from < 0 ? 0 : from;
             while (i < length && bytes[i] >= least && bytes[i] <= greatest) {
                 i++;
             }
@@ -656,7 +656,7 @@ public final class LearnedCount {
         /** The number whose figures stand there. */
         int figures(int from, int to) {
             int number = 0;
-            for (int i = Math.max(from, 0); i < to && i < length; i++) {
+            for (int i = from < 0 ? 0 : from; i < to && i < length; i++) {
                 number = number * 10 + bytes[i] - '0';
             }
             return number;
@@ -1222,7 +1222,7 @@ public final class LearnedCount {
         }
 
         boolean isMain(int d) {
-            return holds(main, d);
+            return (main >>> d & 1) == 1;
         }
     }
 

@@ -468,6 +468,10 @@ public final class PromisesTest {
             due("words(" + what + ")", x.words(what), BAD);
         }
         due("no words", new LearnedCount().words(2), 0);
+        LearnedCount y = told("cite a 1;cite b 2;cite c 1;");
+        due("a ring behind it", y.words(0), 6);
+        due("unsound by it", y.words(1), 7);
+        due("has no end", y.steps(0), NONE);
     }
 
     private static void meets() {
@@ -854,6 +858,8 @@ public final class PromisesTest {
         due("one more against two", y.turns(4, 1, 0), 32);
         LearnedCount z = told("word a - - yes;word b - - yes;");
         due("one against two", z.turns(4, 0, 0), 0);
+        LearnedCount v = told("word a - - no;word b - - no;");
+        due("one against two", v.turns(4, 1, 0), 0);
         due("not main", x.turns(2, 0, 0), STATE);
         due("turns(8, 0, 0)", x.turns(8, 0, 0), BAD);
         due("turns(-1, 0, 0)", x.turns(-1, 0, 0), BAD);
