@@ -6,6 +6,10 @@ public final class AgainstPlainTest {
     private static int calls;
     private static StringBuilder run;
 
+    /** With a text told on top, a run stays below 512 calls. */
+    private static final int MOST_CALLS = 450;
+    private int ownCalls;
+
     private final Random random;
     private final LearnedCount x = new LearnedCount();
     private final PlainCount plain = new PlainCount();
@@ -27,6 +31,7 @@ public final class AgainstPlainTest {
 
     private void due(String call, long got, long want) {
         calls++;
+        ownCalls++;
         run.append(call).append(" = ").append(got).append('\n');
         if (got != want) {
             wrong++;
@@ -40,9 +45,9 @@ public final class AgainstPlainTest {
         if (random.nextInt(4) != 0) tell(false);
         for (int i = 0; i < 4 && plain.words.size() < 3 && random.nextInt(8) != 0; i++) tell(true);
         boolean onSheets = random.nextInt(4) == 0;
-        for (int i = 0; onSheets && i < 40; i++) call(31 + random.nextInt(4));
+        for (int i = 0; onSheets && i < 40 && ownCalls < MOST_CALLS; i++) call(31 + random.nextInt(4));
         int many = 30 + random.nextInt(60);
-        for (int i = 0; i < many && wrong == 0; i++) {
+        for (int i = 0; i < many && wrong == 0 && ownCalls < MOST_CALLS; i++) {
             if (random.nextInt(200) == 0) due("library()", x.library(), plain.library());
             else if (random.nextInt(200) == 0) due("rule()", x.rule(), plain.rule());
             else call(random.nextInt(36));

@@ -1,67 +1,5 @@
 /** Promise by promise: ordinary inputs, the edges that the document names, and wrong inputs. */
-public final class PromisesTest {
-    private static final int BAD = -1, STATE = -2, FULL = -3, NONE = -4;
-    private static final int LOW = Integer.MIN_VALUE, HIGH = Integer.MAX_VALUE;
-
-    private static int wrong;
-    private static int promise;
-
-    private static void due(String what, long got, long want) {
-        if (got != want) {
-            wrong++;
-            System.out.println("promise " + promise + ": " + what + " answered " + got + ", due is " + want);
-        }
-    }
-
-    private static void put(LearnedCount x, String text) {
-        x.end(0);
-        for (int i = 0; i < text.length(); i += 8) {
-            long v = 0;
-            for (int j = i; j < i + 8; j++) {
-                v = v << 8 | (j < text.length() ? text.charAt(j) : ' ');
-            }
-            x.feed(v);
-        }
-        x.end(text.length());
-    }
-
-    private static int library(LearnedCount x, String text) {
-        put(x, text);
-        return x.library();
-    }
-
-    private static int rule(LearnedCount x, String text) {
-        put(x, text);
-        return x.rule();
-    }
-
-    private static LearnedCount told(String library, String rule) {
-        LearnedCount x = new LearnedCount();
-        due("library " + library, library(x, library) < 0 ? 1 : 0, 0);
-        due("rule " + rule, rule(x, rule) < 0 ? 1 : 0, 0);
-        return x;
-    }
-
-    private static LearnedCount told(String library) {
-        return told(library, "");
-    }
-
-    private static void libraryFault(String text, int which, int place) {
-        LearnedCount x = new LearnedCount();
-        due("library '" + text + "'", library(x, text), -10 - place);
-        due("fault() of '" + text + "'", x.fault(), which);
-        due("count(0) behind '" + text + "'", x.count(0), 0);
-        due("count(3) behind '" + text + "'", x.count(3), 0);
-    }
-
-    private static void ruleFault(String text, int which, int place) {
-        LearnedCount x = new LearnedCount();
-        due("rule '" + text + "'", rule(x, text), -10 - place);
-        due("fault() of '" + text + "'", x.fault(), which);
-        due("weighs(0) behind '" + text + "'", x.weighs(0), 31);
-        due("count(3) behind '" + text + "'", x.count(3), 0);
-    }
-
+public final class PromisesTest extends Telling {
     public static void main(String[] args) {
         newObject();
         feed();
@@ -104,14 +42,11 @@ public final class PromisesTest {
         read();
         count();
         refusedChangesNothing();
-        System.out.println(wrong == 0 ? "all promises are kept" : wrong + " answers are not as due");
-        if (wrong != 0) {
-            System.exit(1);
-        }
+        finish();
     }
 
     private static void newObject() {
-        promise = 1;
+        about("promise 1");
         LearnedCount x = new LearnedCount();
         due("words", x.count(0), 0);
         due("laws", x.count(1), 0);
@@ -138,7 +73,7 @@ public final class PromisesTest {
     }
 
     private static void feed() {
-        promise = 2;
+        about("promise 2");
         LearnedCount x = new LearnedCount();
         for (int i = 1; i <= 50; i++) {
             due("feed", x.feed(0x2020202020202020L), 8 * i);
@@ -159,7 +94,7 @@ public final class PromisesTest {
     }
 
     private static void end() {
-        promise = 3;
+        about("promise 3");
         LearnedCount x = new LearnedCount();
         due("end(0)", x.end(0), 0);
         due("end(1)", x.end(1), BAD);
@@ -176,7 +111,7 @@ public final class PromisesTest {
     }
 
     private static void library() {
-        promise = 4;
+        about("promise 4");
         LearnedCount x = new LearnedCount();
         due("no text", x.library(), 0);
         due("blanks", library(x, "   "), 0);
@@ -200,7 +135,7 @@ public final class PromisesTest {
     }
 
     private static void libraryTokens() {
-        promise = 4;
+        about("promise 4");
         LearnedCount x = new LearnedCount();
         due("no blanks", library(x, "law5p-yes;in3;"), 2);
         due("day", x.word(0, 7), 5);
@@ -214,7 +149,7 @@ public final class PromisesTest {
     }
 
     private static void libraryFaults() {
-        promise = 4;
+        about("promise 4");
         libraryFault(",", 1, 0);
         libraryFault("in 3;.", 1, 5);
         libraryFault("in 3;In 3;", 1, 5);
@@ -282,7 +217,7 @@ public final class PromisesTest {
     }
 
     private static void rule() {
-        promise = 5;
+        about("promise 5");
         LearnedCount x = new LearnedCount();
         due("no text", x.rule(), 0);
         due("all lines", rule(x, "laws none;main ha;copies 9;notes;two special;head h;silent yes;"), 7);
@@ -305,7 +240,7 @@ public final class PromisesTest {
     }
 
     private static void ruleFaults() {
-        promise = 5;
+        about("promise 5");
         ruleFault(",", 1, 0);
         ruleFault("copies 0009;", 1, 7);
         ruleFault("in 3;", 2, 0);
@@ -340,7 +275,7 @@ public final class PromisesTest {
     }
 
     private static void fault() {
-        promise = 6;
+        about("promise 6");
         LearnedCount x = new LearnedCount();
         due("at first", x.fault(), 0);
         library(x, "in 9;");
@@ -357,7 +292,7 @@ public final class PromisesTest {
     }
 
     private static void weighs() {
-        promise = 7;
+        about("promise 7");
         LearnedCount x = told("", "two later;silent no;laws first;head a;");
         due("two", x.weighs(3), 1);
         due("head", x.weighs(4), 0);
@@ -373,7 +308,7 @@ public final class PromisesTest {
     }
 
     private static void word() {
-        promise = 8;
+        about("promise 8");
         LearnedCount x = told("in 5;word h pu qs no;cite b 0;against c 1;in 2;note d 2;like e rst;law 7 - p yes;cite f 4;");
         int[][] all = {
             {0, 7, 5, 33, 10, 0, NONE, NONE, 4},
@@ -405,7 +340,7 @@ public final class PromisesTest {
     }
 
     private static void says() {
-        promise = 9;
+        about("promise 9");
         LearnedCount x = told("word a p q yes;word b - - no;against c 0;cite d 2;note e 1;law 3 u p yes;against f 3;");
         for (int c = 0; c < 64; c++) {
             int first = (c & 3) == 1 ? 1 : NONE;
@@ -430,7 +365,7 @@ public final class PromisesTest {
     }
 
     private static void saysLike() {
-        promise = 9;
+        about("promise 9");
         LearnedCount x = told("word a p - yes;note a 0;word b q - no;like a pr;like b pr;like a q;word a q - no;like a pq;like a -;in 3;word c - p no;like c -;like c p;");
         due("a case that is like", x.says(3, 5), 1);
         due("with more marks", x.says(3, 63), 1);
@@ -451,7 +386,7 @@ public final class PromisesTest {
     }
 
     private static void words() {
-        promise = 10;
+        about("promise 10");
         LearnedCount x = told("cite a 1;cite b 2;note c 0;cite d 2;like d p;word e - - yes;like e p;cite f 3;law 3 - - yes;in 2;word f - - no;cite g 9;note h 5;note e 5;copies 2 3;copies 0 1;");
         due("in a ring", x.words(0), 7);
         due("unsound", x.words(1), 7 | 8 | 16 | 128);
@@ -475,7 +410,7 @@ public final class PromisesTest {
     }
 
     private static void meets() {
-        promise = 11;
+        about("promise 11");
         LearnedCount x = told("word a p - yes;word b p - no;law 1 p - yes;law 1 - - no;in 1;word f - - yes;note a 0;copies 1 1;");
         due("that say something", x.meets(1, 0), 63);
         due("that say yes", x.meets(1, 1), 1 | 4 | 16 | 32);
@@ -490,7 +425,7 @@ public final class PromisesTest {
     }
 
     private static void steps() {
-        promise = 12;
+        about("promise 12");
         LearnedCount x = told("word a - - yes;cite b 0;against c 1;note d 2;like d p;law 1 - - no;cite e 7;cite e 6;like e p;cite f 4;");
         int[] all = {0, 1, 2, 3, 0, 0, NONE, NONE, NONE, 1};
         for (int w = 0; w < all.length; w++) {
@@ -509,7 +444,7 @@ public final class PromisesTest {
     }
 
     private static void each() {
-        promise = 13;
+        about("promise 13");
         String words = "word a p - yes;word a pq - no;word a r - no;word b - - no;in 3;word f - - yes;note b 0;word c p - yes;word c p - no;word c pq - no;word c - - yes;";
         LearnedCount x = told(words);
         due("one thing", x.each(0, 1), 1);
@@ -540,7 +475,7 @@ public final class PromisesTest {
     }
 
     private static void clash() {
-        promise = 14;
+        about("promise 14");
         LearnedCount x = told("word a p - yes;word a q - no;word b - - yes;note b 1;in 1;word f p - yes;against f 4;");
         due("many", x.clash(0, 0), 16);
         due("the least", x.clash(0, 1), 3);
@@ -561,7 +496,7 @@ public final class PromisesTest {
     }
 
     private static void sides() {
-        promise = 15;
+        about("promise 15");
         LearnedCount x = told("word a p - yes;word b q - yes;word c q - no;word d - pq no;");
         due("both", x.sides(0, 1, 0), 16);
         due("the same", x.sides(0, 1, 1), 16);
@@ -582,7 +517,7 @@ public final class PromisesTest {
     }
 
     private static void hangs() {
-        promise = 16;
+        about("promise 16");
         LearnedCount x = told("word a p - yes;word b q - yes;word c q - no;law 3 u - yes;", "head b;");
         due("on a", x.hangs(0, 0), 8);
         due("the least", x.hangs(0, 1), 1);
@@ -610,7 +545,7 @@ public final class PromisesTest {
     }
 
     private static void held() {
-        promise = 17;
+        about("promise 17");
         String words = "word a p - yes;word b p - yes;word c p - no;word d q - no;word e q - yes;law 5 r - no;law 9 rs - yes;law 9 rst - no;law 2 u - yes;";
         LearnedCount x = told(words);
         dueHeld(x, 0, NONE, 0, 0, 0);
@@ -644,7 +579,7 @@ public final class PromisesTest {
     private static final long P_SO = 0xAAAAAAAAAAAAAAAAL, Q_SO = 0xCCCCCCCCCCCCCCCCL, U_SO = 0xFFFFFFFF00000000L;
 
     private static void cases() {
-        promise = 18;
+        about("promise 18");
         LearnedCount x = told("word a p - yes;word b q - no;law 1 u - yes;", "head b;");
         due("yes", x.cases(0), U_SO | P_SO & ~Q_SO);
         due("no", x.cases(1), ~U_SO & Q_SO);
@@ -662,7 +597,7 @@ public final class PromisesTest {
     }
 
     private static void many() {
-        promise = 19;
+        about("promise 19");
         LearnedCount x = told("word a p - yes;word b q - no;law 1 u - yes;", "head b;");
         due("yes", x.many(0), 40);
         due("no", x.many(1), 16);
@@ -678,7 +613,7 @@ public final class PromisesTest {
     }
 
     private static void reckon() {
-        promise = 20;
+        about("promise 20");
         LearnedCount x = told("word a p - yes;word b p - yes;word c p - no;");
         due("right", x.reckon(1, 2, 2, 1, 1), 0);
         due("by what", x.reckon(1, 1, 9, 9, 9), 1);
@@ -692,7 +627,7 @@ public final class PromisesTest {
     }
 
     private static void widest() {
-        promise = 21;
+        about("promise 21");
         LearnedCount x = told("word a p - yes;word b p - no;word c q - yes;word d r - yes;");
         due("the most that say something", x.widest(0), 7);
         due("the lesser", x.widest(1), 1);
@@ -716,7 +651,7 @@ public final class PromisesTest {
     }
 
     private static void near() {
-        promise = 22;
+        about("promise 22");
         LearnedCount x = told("word a pq - yes;word b rs - no;word c u pqrs no;");
         due("itself", x.near(3, 1, 0), 3);
         due("no marks", x.near(3, 1, 1), 0);
@@ -743,7 +678,7 @@ public final class PromisesTest {
     }
 
     private static void bring() {
-        promise = 23;
+        about("promise 23");
         LearnedCount x = told("in 7;word h - - yes;");
         due("all", x.bring(127), 255);
         due("not book 7", x.held(0, 0), NONE);
@@ -756,7 +691,7 @@ public final class PromisesTest {
     }
 
     private static void copies() {
-        promise = 24;
+        about("promise 24");
         LearnedCount x = told("copies 3 9;in 3;word f - - yes;");
         due("copies(3, 0)", x.copies(3, 0), 9);
         due("too few", x.held(0, 0), NONE);
@@ -771,7 +706,7 @@ public final class PromisesTest {
     }
 
     private static void argue() {
-        promise = 25;
+        about("promise 25");
         LearnedCount x = told("word a - - no;in 1;word f - - yes;in 4;word g - - yes;in 6;word h - - yes;in 7;word h - - yes;word f p - no;copies 4 1;");
         due("two books", x.argue(0, 1, 0), 2);
         due("the least bits", x.argue(0, 1, 1), 66);
@@ -799,7 +734,7 @@ public final class PromisesTest {
     }
 
     private static void game() {
-        promise = 26;
+        about("promise 26");
         LearnedCount x = told("in 1;word f p - yes;in 2;word g q - no;in 6;word h - - yes;in 7;word h - - yes;");
         due("the one for yes has a book", x.game(1, 0, 0), 1);
         due("the one for no has one", x.game(2, 1, 0), 0);
@@ -825,7 +760,7 @@ public final class PromisesTest {
     }
 
     private static void turn() {
-        promise = 27;
+        about("promise 27");
         dueTurn(new LearnedCount(), 64, 0, 0, 0);
         dueTurn(told("law 1 - - yes;", "main hg;"), 0, 6, 0, 0);
         dueTurn(told("word a - - no;word b p - yes;"), 64, 0, 1, 0);
@@ -843,7 +778,7 @@ public final class PromisesTest {
     }
 
     private static void turns() {
-        promise = 28;
+        about("promise 28");
         LearnedCount x = told("word a p - yes;word a pq - yes;law 1 u - no;", "two special;main ab;");
         due("in all other cases", x.turns(0, 0, 0), 16);
         due("as heavy as one", x.turns(0, 0, 1), 8);
@@ -873,7 +808,7 @@ public final class PromisesTest {
     }
 
     private static void keep() {
-        promise = 29;
+        about("promise 29");
         LearnedCount x = told("", "main h;copies 7;notes;two special;head c;silent no;laws first;");
         due("keep()", x.keep(), 1);
         rule(x, "");
@@ -888,7 +823,7 @@ public final class PromisesTest {
     }
 
     private static void swap() {
-        promise = 30;
+        about("promise 30");
         LearnedCount x = told("", "main h;");
         due("swap()", x.swap(), 1);
         due("the other one", x.weighs(0), 31);
@@ -903,7 +838,7 @@ public final class PromisesTest {
     }
 
     private static void differ() {
-        promise = 31;
+        about("promise 31");
         LearnedCount x = told("word a p - yes;word b p - no;in 1;word f q - yes;");
         due("none", x.differ(0), 0);
         due("no least", x.differ(1), NONE);
@@ -922,7 +857,7 @@ public final class PromisesTest {
     }
 
     private static void brief() {
-        promise = 32;
+        about("promise 32");
         LearnedCount x = told("");
         due("nothing", x.brief(0), 0);
         due("nothing", x.brief(1), 0);
@@ -946,7 +881,7 @@ public final class PromisesTest {
     }
 
     private static void sheet() {
-        promise = 33;
+        about("promise 33");
         LearnedCount x = new LearnedCount();
         due("sheet(0, 0, 0)", x.sheet(0, 0, 0), 1);
         due("no cells", x.count(4), 0);
@@ -971,7 +906,7 @@ public final class PromisesTest {
     }
 
     private static void lay() {
-        promise = 34;
+        about("promise 34");
         LearnedCount x = told("word a p - yes;");
         due("nothing", x.lay(0, 0, 0), -11);
         due("nothing", x.lay(0, -1, 0), -11);
@@ -997,7 +932,7 @@ public final class PromisesTest {
     }
 
     private static void read() {
-        promise = 35;
+        about("promise 35");
         LearnedCount x = told("word a p - yes;word b q - no;");
         due("nothing", x.read(2, 0, 0, 0, 0), -11);
         x.sheet(2, 1, 6);
@@ -1036,7 +971,7 @@ public final class PromisesTest {
     }
 
     private static void count() {
-        promise = 36;
+        about("promise 36");
         LearnedCount x = told("law 1 - - yes;word a - - no;law 2 - - no;copies 0 0;copies 7 9;");
         due("words", x.count(0), 3);
         due("laws", x.count(1), 2);
@@ -1055,7 +990,7 @@ public final class PromisesTest {
     }
 
     private static void refusedChangesNothing() {
-        promise = 0;
+        about("what is refused changes nothing");
         LearnedCount x = told("word a p - yes;in 3;word f q - no;copies 3 4;", "main ab;head b;");
         x.sheet(0, 0, 3);
         x.feed(0L);
