@@ -16,6 +16,8 @@ public final class HeldEdgesTest extends Telling {
         copiesBecome();
         fewest();
         fewestOfSeveral();
+        fewestByBringing();
+        sevenBooks();
         game();
         gameFromNoBooks();
         found();
@@ -384,6 +386,70 @@ public final class HeldEdgesTest extends Telling {
         due("silence holds by no book", told("", "silent no;").argue(0, 0, 1), 0);
         due("notes", told("in 5;word a p - yes;note h 0;in 6;cite g 0;", "notes;main b;").argue(1, 1, 1), 32);
         due("no notes", told("in 6;word a p - yes;in 5;note h 0;", "main b;").argue(1, 1, 1), 64);
+    }
+
+    /** Brings every set of books, half of them to one object and half to another, and looks for the least by itself. */
+    private static int fewestByBringing(String library, String rule, int c, int answer) {
+        int fewest = NONE;
+        LearnedCount x = told(library, rule);
+        for (int set = 0; set < 256; set++) {
+            if (set == 128) {
+                x = told(library, rule);
+            }
+            x.bring(set);
+            boolean fewer = fewest == NONE || Integer.bitCount(set) < Integer.bitCount(fewest);
+            if (x.held(c, 0) == answer && fewer) {
+                fewest = set;
+            }
+        }
+        return fewest;
+    }
+
+    private static void dueFewest(String library, String rule, int c, int answer) {
+        int fewest = fewestByBringing(library, rule, c, answer);
+        LearnedCount x = told(library, rule);
+        due("fewest of '" + library + "' by '" + rule + "'", x.argue(c, answer, 1), fewest);
+        due("how many", x.argue(c, answer, 0), fewest == NONE ? NONE : Integer.bitCount(fewest));
+    }
+
+    private static void fewestByBringing() {
+        about("BRINGING: a set of BOOKS is BROUGHT.");
+        String[] libraries = {
+            "word a - - no;in 1;word f - - yes;word g p - no;in 2;word g - - yes;in 3;word h p - yes;copies 3 1;in 7;word b - - yes;word f - - no;",
+            "in 0;word b - - yes;word c - - no;word d - - no;in 6;word c pq - yes;word e - - no;in 7;word d pqr - yes;word b - - no;",
+            "in 5;word b p q yes;in 4;note c 0;against d 0;in 3;like b p;cite e 1;in 2;word a - - no;", "law 3 pq - no;in 1;word h - - yes;in 2;word g p - no;",
+        };
+        for (String library : libraries) {
+            for (String rule : new String[] {"main a;", "main a;two later;", "main a;two special;head c;", "main h;notes;silent no;copies 1;", ""}) {
+                for (int c : new int[] {0, 1, 7, 63}) {
+                    dueFewest(library, rule, c, 0);
+                    dueFewest(library, rule, c, 1);
+                }
+            }
+        }
+    }
+
+    /** Each of b to h says no in some books and yes in one; where both are there, that one says nothing. */
+    private static final int[] NO_IN = {0x13, 0x00, 0x61, 0xa8, 0x0c, 0x48, 0x0b};
+    private static final int[] YES_IN = {0x10, 0x40, 0x02, 0x04, 0x08, 0x20, 0x80};
+
+    private static void sevenBooks() {
+        about("FEWEST for an answer: the least number of BOOKS (of several sets the least bits) by which it is HELD.");
+        for (int answer = 0; answer < 2; answer++) {
+            StringBuilder text = new StringBuilder();
+            for (int b = 0; b < 8; b++) {
+                text.append("in ").append(b).append(';');
+                for (int i = 0; i < 7; i++) {
+                    String word = "word " + doctor(i + 1) + " - - ";
+                    text.append((NO_IN[i] >>> b & 1) == 1 ? word + yesNo(1 - answer) + ";" : "");
+                    text.append((YES_IN[i] >>> b & 1) == 1 ? word + yesNo(answer) + ";" : "");
+                }
+            }
+            LearnedCount x = told(text.toString(), "main a;");
+            due("seven books", x.argue(0, answer, 0), 7);
+            due("all but book 0", x.argue(0, answer, 1), 0xfe);
+            dueFewest(text.toString(), "main a;", 63, answer);
+        }
     }
 
     private static void game() {
