@@ -35,6 +35,7 @@ public final class HeldEdgesTest extends Telling {
         cellsBecome();
         readCells();
         readFaults();
+        machineFaults();
         counts();
         compareWithDocument();
         finish();
@@ -205,6 +206,7 @@ public final class HeldEdgesTest extends Telling {
 
     private static void reckoning() {
         about("A RECKONING: 0 right; 1 by what, 2 YES, 3 NO, 4 what is HELD is wrong. BAD: the CASE.");
+        about("A RECKONING of a CASE (by whom it holds, how many YES, how many NO, what is HELD) is looked at in that order: the first that is wrong.");
         LearnedCount x = told(yesAndNo(3, 2));
         int[] right = {2, 3, 2, 1};
         due("right", x.reckon(63, 2, 3, 2, 1), 0);
@@ -599,6 +601,7 @@ public final class HeldEdgesTest extends Telling {
 
     private static void sides() {
         about("SIDES of two DOCTORS: how many CASES (what 0), the same (1), the least in which they say unlike things (2; NONE). BAD: also one and the same.");
+        about("SIDES: in how many CASES two DOCTORS both say something, in how many of these the same.");
         LearnedCount x = told("word a - - yes;word b - - yes;word c - - no;word d pqrstu - no;word e - pqrstu no;in 1;word h - - yes;");
         due("all", x.sides(0, 1, 0), 64);
         due("all the same", x.sides(0, 1, 1), 64);
@@ -876,6 +879,25 @@ public final class HeldEdgesTest extends Telling {
         due("nothing ahead of an index", x.read(1, 1, -1, 1, 0), -11);
         due("BAD ahead of nothing", x.read(1, 1, 0, 41, 0), BAD);
         due("BAD ahead of another lane", x.read(0, 0, 0, 0, 3), BAD);
+    }
+
+    private static void machineFaults() {
+        about("A FAULT is what the machine finds: 1 NULL (nothing), 2 INDEX, 3 CAST (another lane), 4 SIZE (below 0).");
+        for (int k = 0; k < 4; k++) {
+            LearnedCount x = new LearnedCount();
+            due("NULL, lay", x.lay(k, 0, 0), -11);
+            due("NULL, read", x.read(k, 0, 0, 1, 0), -11);
+            due("SIZE", x.sheet(k, 0, -1), -14);
+            due("still NULL", x.lay(k, 0, 0), -11);
+            due("a row of no cells", x.sheet(k, 0, 0), 1);
+            due("INDEX, lay", x.lay(k, 0, 0), -12);
+            due("INDEX, read", x.read(k, 0, 0, 1, 0), -12);
+            due("CAST", x.read(k, 1, 0, 1, 0), -13);
+            due("CAST", x.read(k, 2, 0, 0, 0), -13);
+            due("no fault", x.read(k, 0, 0, 0, 0), 0);
+            due("a lane below", x.sheet(k, -1, 0), BAD);
+            due("a lane above", x.sheet(k, 3, 0), BAD);
+        }
     }
 
     private static void counts() {

@@ -154,6 +154,8 @@ public final class NumberEdgesTest extends Telling {
 
     public static void main(String[] args) throws IOException {
         insideAndOutside();
+        casesDoctorsBooks();
+        yesAndNo();
         casesOutside();
         sidesOfOne();
         askingChangesNothing();
@@ -182,6 +184,59 @@ public final class NumberEdgesTest extends Telling {
                 due(row.told(a), row.call.on(x, a), row.refusal);
             }
         }
+    }
+
+    private static void casesDoctorsBooks() {
+        about("CASES 0 to 63: which MARKS are so. DOCTORS a to h (0 to 7). BOOKS 0 to 7.");
+        for (int c = -3; c < 68; c++) {
+            boolean bad = c < 0 || c > 63;
+            LearnedCount x = made();
+            String what = "case " + c + " of ";
+            due(what + "says", x.says(0, c), bad ? BAD : (c & 1) == 1 ? 1 : NONE);
+            must(what + "meets", x.meets(c, 0) == BAD == bad);
+            must(what + "each", x.each(0, c) == BAD == bad);
+            must(what + "held", x.held(c, 0) == BAD == bad);
+            must(what + "reckon", x.reckon(c, 0, 0, 0, 0) == BAD == bad);
+            due(what + "near", x.near(c, 1, 1), bad ? BAD : x.held(c, 0) == 1 ? 0 : 1);
+            must(what + "argue", x.argue(c, 1, 0) == BAD == bad);
+            must(what + "game", x.game(c, 1, 0) == BAD == bad);
+            due(what + "turns", x.turns(0, 1, c) == BAD ? 1 : 0, bad ? 1 : 0);
+            x.lay(2, 0, c);
+            due(what + "read", x.read(2, 2, 0, 1, 0) == -20 ? 1 : 0, bad ? 1 : 0);
+        }
+        for (int n = -3; n < 12; n++) {
+            boolean bad = n < 0 || n > 7;
+            LearnedCount x = made();
+            must("each of doctor " + n, x.each(n, 0) == BAD == bad);
+            must("clash of doctor " + n, x.clash(n, 0) == BAD == bad);
+            must("hangs of doctor " + n, x.hangs(n, 0) == BAD == bad);
+            must("sides of doctor " + n, x.sides(n, n == 1 ? 2 : 1, 0) == BAD == bad);
+            must("turns of doctor " + n, x.turns(n, 0, 0) == BAD == bad);
+            must("copies of book " + n, x.copies(n, 1) == BAD == bad);
+            must("count of book " + n, x.count(10 + n) == BAD == bad);
+            if (n >= 0) {
+                must("bring of book " + n, x.bring(1 << n) == BAD == bad);
+            }
+        }
+    }
+
+    private static void yesAndNo() {
+        about("YES is 1, NO is 0.");
+        LearnedCount x = told("word a p - yes;word a - p no;law 1 pq - yes;law 1 q p no;", "silent yes;");
+        due("answer yes", x.word(0, 5), 1);
+        due("answer no", x.word(1, 5), 0);
+        due("says yes", x.says(0, 1), 1);
+        due("says no", x.says(1, 0), 0);
+        due("a doctor says yes", x.each(0, 1), 1);
+        due("a doctor says no", x.each(0, 0), 0);
+        due("yes is held", x.held(3, 0), 1);
+        due("no is held", x.held(2, 0), 0);
+        due("the nearest yes", x.near(2, 1, 0), 3);
+        due("the nearest no", x.near(3, 0, 0), 2);
+        due("silent yes", x.weighs(5), 1);
+        due("the game's end", x.game(0, 1, 0), 0);
+        rule(x, "silent no;");
+        due("silent no", x.weighs(5), 0);
     }
 
     private static void casesOutside() {
